@@ -66,6 +66,7 @@ public final class BoardTest {
         Check.due("merges ahead", x.count(6), 1);
         Check.due("splits ahead", x.count(7), 2);
         Check.due("steps ahead", x.count(8), 2);
+        Check.due("dropped ahead", x.empty(0) + x.walker(0, 8), 4);
         Check.due("reset", x.reset(4, 4), 16);
         for (int what = 2; what <= 9; what++) {
             Check.due("reset: count " + what, x.count(what), 0);

@@ -5,6 +5,7 @@ public final class ToldTest {
         chips();
         walkers();
         heapsInOrder();
+        heapsOfBentShapes();
         heapsWrongly();
         heapsOfCells();
         manyHeaps();
@@ -100,6 +101,34 @@ public final class ToldTest {
         Check.due("no heap by corners or round the edge", y.count(5), 4);
         Check.due("first row of the first", y.heap(0, 2), 0);
         Check.due("first column of the first", y.heap(0, 3), 7);
+    }
+
+    private static void heapsOfBentShapes() {
+        ChipPilers x = new ChipPilers();
+        x.put(0, 0, 5);
+        x.put(1, 0, 1);
+        x.put(1, 1, 1);
+        x.put(1, 2, 1);
+        x.put(0, 2, 1);
+        Check.due("by south, east and north", x.count(5), 1);
+        Check.due("five cells", x.heap(0, 1), 5);
+        Check.due("the most is in the first cell", x.heap(0, 4), 5);
+        ChipPilers y = new ChipPilers();
+        y.put(0, 4, 1);
+        y.put(1, 4, 1);
+        y.put(1, 3, 1);
+        y.put(1, 2, 1);
+        y.put(0, 2, 1);
+        y.put(0, 1, 1);
+        Check.due("by north, west and south", y.count(5), 1);
+        Check.due("its first cell", y.heap(0, 3), 1);
+        ChipPilers z = new ChipPilers();
+        z.reset(16, 16);
+        z.put(0, 0, 1);
+        z.put(1, 0, 1);
+        z.put(0, 15, 1);
+        z.put(15, 0, 1);
+        Check.due("the greatest board isn't round", z.count(5), 3);
     }
 
     private static void heapsWrongly() {

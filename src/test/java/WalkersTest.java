@@ -164,6 +164,7 @@ public final class WalkersTest {
         x.undo();
         x.undo();
         Check.due("three again", x.count(10), 3);
+        Check.due("the first of them again", x.turn(0), 5);
         Check.due("place again", x.count(9), 2);
         Check.due("adding goes on", x.addTurn(1), 4);
     }
