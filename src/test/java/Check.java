@@ -1,16 +1,22 @@
 /** Counts and prints the answers that are not as due. */
 final class Check {
+    private static String sentence = "";
     private static int calls = 0;
     private static int wrong = 0;
 
     private Check() {
     }
 
+    /** Names the document's sentence that the next answers are about. */
+    static void about(String words) {
+        sentence = words + ": ";
+    }
+
     static void due(String call, int got, int want) {
         calls++;
         if (got != want) {
             wrong++;
-            System.out.println(call + " answered " + got + ", due is " + want);
+            System.out.println(sentence + call + " answered " + got + ", due is " + want);
         }
     }
 

@@ -1,13 +1,17 @@
-/** Runs of 512 calls, made by a fixed row of numbers, against the plain model. */
+/** Runs of at most 512 calls, made by a fixed row of numbers, against the plain model. */
 public final class RandomRunsTest {
-    private static final int RUNS = 400;
-    private static final int CALLS = 512;
+    private static final int RUNS = 500;
+    // The document promises nothing behind this many calls of one object.
+    private static final int MOST_CALLS = 512;
+    private static final int CALLS_LEFT_TO_COMPARE = 100;
+    private static final int MOST_CALLS_OF_A_TURN = 48;
     private static final String SIGNS = "rneswgd#0123456789 x";
 
     private long seed;
     private ChipPilers x;
     private Model m;
     private String call;
+    private int calls = 0;
 
     public static void main(String[] args) {
         for (int run = 0; run < RUNS; run++) {
@@ -21,10 +25,10 @@ public final class RandomRunsTest {
         x = new ChipPilers();
         m = new Model();
         begin(run);
-        for (int number = 0; number < CALLS; number++) {
+        while (calls < MOST_CALLS - CALLS_LEFT_TO_COMPARE - MOST_CALLS_OF_A_TURN) {
             int choice = below(100);
             int[] answers = choice < 34 ? change(choice) : choice < 58 ? walkOrPlan(choice - 34) : tell(choice - 58);
-            Check.due("run " + run + " call " + number + ": " + call, answers[0], answers[1]);
+            Check.due("run " + run + " call " + calls + ": " + call, answers[0], answers[1]);
         }
         compareAll("run " + run);
     }
@@ -34,6 +38,7 @@ public final class RandomRunsTest {
         int most = run % 3 == 0 ? 4 : 16;
         int rows = 2 + below(most - 1);
         int columns = 2 + below(most - 1);
+        calls++;
         Check.due("begin", x.reset(rows, columns), m.reset(rows, columns));
         int walkers = below(5);
         for (int i = 0; i < walkers; i++) {
@@ -77,6 +82,7 @@ public final class RandomRunsTest {
     }
 
     private int[] told(String name, int got, int want) {
+        calls++;
         call = name;
         return new int[] {got, want};
     }
@@ -165,8 +171,8 @@ public final class RandomRunsTest {
     }
 
     private void typePlan() {
-        x.clearText();
-        m.clearText();
+        calls++;
+        Check.due("clearText ahead of a plan", x.clearText(), m.clearText());
         int orders = 1 + below(14);
         for (int i = 0; i < orders; i++) {
             char letter = SIGNS.charAt(below(8));
@@ -177,6 +183,7 @@ public final class RandomRunsTest {
                 order += 1 + below(letter == 'r' ? 9 : 30);
             }
             for (char c : order.toCharArray()) {
+                calls++;
                 Check.due("type of a plan", x.type(c), m.type(c));
             }
         }
@@ -215,13 +222,15 @@ public final class RandomRunsTest {
 
     private void compareAll(String run) {
         for (int what = 0; what <= 12; what++) {
+            calls++;
             Check.due(run + " at its end: count " + what, x.count(what), m.count(what));
         }
-        for (int r = 0; r < m.count(0); r++) {
-            for (int c = 0; c < m.count(1); c++) {
-                Check.due(run + " at its end: chips " + r + " " + c, x.chips(r, c), m.chips(r, c));
-                Check.due(run + " at its end: heapOf " + r + " " + c, x.heapOf(r, c), m.heapOf(r, c));
-            }
+        for (int cell = 0; cell < m.count(0) * m.count(1) && calls + 2 <= MOST_CALLS; cell++) {
+            int r = cell / m.count(1);
+            int c = cell % m.count(1);
+            calls += 2;
+            Check.due(run + " at its end: chips " + r + " " + c, x.chips(r, c), m.chips(r, c));
+            Check.due(run + " at its end: heapOf " + r + " " + c, x.heapOf(r, c), m.heapOf(r, c));
         }
     }
 }
