@@ -610,25 +610,32 @@ public final class ChipPilers {
         }
 
         private void findHeap(int[] chips, int first, int heap) {
-            int size = 0;
-            int count = 1;
-            found[0] = first;
-            heapOfCell[first] = heap;
-            for (int next = 0; next < count && next < CELLS; next++) {
-                int cell = found[next];
-                size += chips[cell];
+            if (heap < 0 || heap >= MOST_HEAPS) {
+                return;
+            }
+            sizes[heap] = 0;
+            cellCounts[heap] = 0;
+            firstCells[heap] = first;
+            addCell(chips, first, heap);
+            for (int next = 0; next < cellCounts[heap] && next < CELLS; next++) {
                 for (int direction = NORTH; direction <= WEST; direction++) {
-                    int beside = neighbour(cell, direction);
-                    if (beside >= 0 && chips[beside] > 0 && heapOfCell[beside] < 0 && count < CELLS) {
-                        heapOfCell[beside] = heap;
-                        found[count] = beside;
-                        count++;
-                    }
+                    addCell(chips, neighbour(found[next], direction), heap);
                 }
             }
-            sizes[heap] = size;
-            cellCounts[heap] = count;
-            firstCells[heap] = first;
+        }
+
+        /** Adds a cell to a heap if it has chips and belongs to no heap yet; its neighbours are looked at later. */
+        private void addCell(int[] chips, int cell, int heap) {
+            if (cell < 0 || cell >= CELLS || cell >= chips.length || heap < 0 || heap >= MOST_HEAPS) {
+                return;
+            }
+            int count = cellCounts[heap];
+            if (chips[cell] > 0 && heapOfCell[cell] < 0 && count >= 0 && count < CELLS) {
+                heapOfCell[cell] = heap;
+                found[count] = cell;
+                cellCounts[heap] = count + 1;
+                sizes[heap] += chips[cell];
+            }
         }
 
         private static int neighbour(int cell, int direction) {

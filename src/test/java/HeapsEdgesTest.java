@@ -7,6 +7,7 @@ public final class HeapsEdgesTest {
 
     public static void main(String[] args) {
         cellsNextToEachOther();
+        heapsOfEachShape();
         noHeapRoundTheEdge();
         cellsWithAtLeastOneChip();
         longHeaps();
@@ -47,6 +48,28 @@ public final class HeapsEdgesTest {
         }
     }
 
+    private static void heapsOfEachShape() {
+        Check.about("Heaps: a heap is a set of cells (whichever ways lead from its first cell to the others)");
+        String[][] shapes = {{"1.1", "111"}, {"..1", "111", "1.."}, {"1..", "111", "..1"}, {"11", ".1", "11"},
+            {"11", "1.", "11"}, {"..1", ".11", "11."}, {"1.1", "1.1", "111"}, {"111", "1.1", "1.1"}, {".1.", "111", ".1."}};
+        for (String[] shape : shapes) {
+            ChipPilers x = new ChipPilers();
+            int cells = 0;
+            for (int row = 0; row < shape.length; row++) {
+                for (int column = 0; column < shape[row].length(); column++) {
+                    if (shape[row].charAt(column) == '1') {
+                        cells++;
+                        x.put(row, column, 10 - cells);
+                    }
+                }
+            }
+            String call = String.join("/", shape);
+            Check.due("heaps of " + call, x.count(5), 1);
+            Check.due("cells of " + call, x.heap(0, 1), cells);
+            Check.due("most chips of a cell of " + call, x.heap(0, 4), 9);
+        }
+    }
+
     private static void noHeapRoundTheEdge() {
         Check.about("Board: walls at its edges, so no cells are next to each other round them");
         for (int[] size : new int[][] {{3, 3}, {16, 16}, {3, 16}, {16, 3}, {8, 8}}) {
@@ -62,6 +85,12 @@ public final class HeapsEdgesTest {
             x.put(1, 0, 1);
             Check.due("the end of a row and the beginning of the next", x.count(5), 2);
         }
+        ChipPilers great = new ChipPilers();
+        great.reset(16, 16);
+        great.put(0, 0, 1);
+        great.put(1, 0, 1);
+        great.put(0, 15, 1);
+        Check.due("the first column and the end of the first row", great.count(5), 2);
         ChipPilers least = new ChipPilers();
         least.reset(2, 2);
         least.put(0, 0, 1);

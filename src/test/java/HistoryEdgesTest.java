@@ -185,7 +185,7 @@ public final class HistoryEdgesTest {
         x.keep(1);
         x.reset(16, 2);
         x.clearTurns();
-        x.addWalker(15, 1, 2, 2, 2);
+        x.addWalker(15, 1, 2, 2, 5);
         x.strew(3, 1, 2);
         x.walk(0, 30);
         x.restore(1);

@@ -112,12 +112,12 @@ public final class WalkersEdgesTest {
         x.addWalker(1, 1, 0, 1, 9);
         Check.due("pocket on a cell with chips", x.walker(0, 3), 0);
         Check.due("its chips stay", x.chips(1, 1), 9);
-        Check.runText(x, "g9n2");
-        x.undo();
-        x.undo();
+        Check.runText(x, "g9d2n2");
+        Check.due("pocket ahead of reset", x.walker(0, 3), 7);
+        x.reset(8, 8);
         x.addWalker(1, 1, 0, 1, 9);
         for (int what : new int[] {3, 6, 7, 8}) {
-            Check.due("nothing of an undone walker: " + what, x.walker(0, what), 0);
+            Check.due("nothing of a walker ahead of reset: " + what, x.walker(0, what), 0);
         }
     }
 
